@@ -25,6 +25,7 @@ public final class PackLanes {
     private final int[] present = new int[PLACES];
     private final int[] random = new int[PLACES];
     private final int[] asked = new int[PLACES];
+    private final int[] commands = new int[COMMANDS];
     private final Acts acts = new Acts();
     private final Slots slots = new Slots();
     private final Sights sights = new Sights();
@@ -201,13 +202,20 @@ public final class PackLanes {
     }
 
     public int judge(int n, long row) {
-        if (n < 1 || n > COMMANDS || row < 0 || row >= power(100000L, n)) {
+        if (n < 1 || n > COMMANDS || row < 0) {
+            return BAD;
+        }
+        long rest = row;
+        for (int k = n - 1; k >= 0; k--) {
+            commands[k] = (int) (rest % 100000L);
+            rest /= 100000L;
+        }
+        if (rest != 0) {
             return BAD;
         }
         System.arraycopy(present, 0, asked, 0, PLACES);
         for (int k = 0; k < n; k++) {
-            long upToThis = row / power(100000L, n - 1 - k);
-            if (!isRight((int) (upToThis % 100000L))) {
+            if (!isRight(commands[k])) {
                 return k;
             }
         }
