@@ -1,6 +1,7 @@
 /** Long runs of calls, made from numbers that are the same each time, against the model. */
 final class ModelTest {
     private static final Checks CHECKS = new Checks("model");
+    private static final int QUESTIONS = 28;
     private static final String[] FIXED = {
         // two statements of the same shape, with a quotient between them
         "V812lA0lA1k2/ab*ac*bcsB0dsB1esB2f",
@@ -15,6 +16,7 @@ final class ModelTest {
 
     private static long state = 1;
     private static int run;
+    private static int calls;
     private static PackLanes real;
     private static Model model;
 
@@ -28,6 +30,10 @@ final class ModelTest {
     }
 
     private static void due(String call, long got, long want) {
+        calls++;
+        if (calls > 512) {
+            throw new IllegalStateException("the document promises nothing about so many calls of one object");
+        }
         CHECKS.due("run " + run + ": " + call, got, want);
     }
 
@@ -167,30 +173,38 @@ final class ModelTest {
         return near(0, Math.max(0, n - 1));
     }
 
-    private static void askAll() {
-        for (int k = 0; k <= 14; k++) {
-            due("about(" + k + ")", real.about(k), model.about(k));
+    /** Some of all the questions, as an object is made for so few calls that it can't be asked all of them. */
+    private static void ask() {
+        for (int k = 0; k < QUESTIONS; k++) {
+            oneQuestion();
         }
-        int n = model.about(0);
-        for (int i = 0; i < n; i++) {
-            for (int k = 0; k <= 5; k++) {
-                due("instruction(" + i + ", " + k + ")", real.instruction(i, k), model.instruction(i, k));
+    }
+
+    private static void oneQuestion() {
+        int a = place();
+        int b = place();
+        int address = near(0, 15);
+        switch (below(12)) {
+            case 0, 1, 2, 3 -> {
+                a = near(0, 14);
+                due("about(" + a + ")", real.about(a), model.about(a));
             }
-            for (int j = 0; j < n; j++) {
-                due("depends(" + i + ", " + j + ")", real.depends(i, j), model.depends(i, j));
+            case 4, 5, 6, 7 -> {
+                b = near(0, 5);
+                due("instruction(" + a + ", " + b + ")", real.instruction(a, b), model.instruction(a, b));
             }
+            case 8 -> due("depends(" + a + ", " + b + ")", real.depends(a, b), model.depends(a, b));
+            case 9 -> {
+                b = near(0, 2);
+                due("address(" + address + ", " + b + ")", real.address(address, b), model.address(address, b));
+            }
+            case 10 -> {
+                a = near(0, 1);
+                b = near(0, 6);
+                due("tried(" + a + ", " + b + ")", real.tried(a, b), model.tried(a, b));
+            }
+            default -> due("which()", real.which(), model.which());
         }
-        for (int a = 0; a < 16; a++) {
-            for (int k = 0; k <= 2; k++) {
-                due("address(" + a + ", " + k + ")", real.address(a, k), model.address(a, k));
-            }
-        }
-        for (int row = 0; row < 2; row++) {
-            for (int cell = 0; cell < 8; cell++) {
-                due("tried(" + row + ", " + cell + ")", real.tried(row, cell), model.tried(row, cell));
-            }
-        }
-        due("which()", real.which(), model.which());
     }
 
     private static int twoDigits(int v) {
@@ -273,26 +287,7 @@ final class ModelTest {
                 long row = commands(Math.min(3, Math.max(1, a)));
                 due("judge(" + a + ", " + row + ")", real.judge(a, row), model.judge(a, row));
             }
-            case 15 -> {
-                a = place();
-                b = near(0, 5);
-                due("instruction(" + a + ", " + b + ")", real.instruction(a, b), model.instruction(a, b));
-                a = near(0, 15);
-                b = near(0, 2);
-                due("address(" + a + ", " + b + ")", real.address(a, b), model.address(a, b));
-            }
-            case 16 -> {
-                a = place();
-                b = place();
-                due("depends(" + a + ", " + b + ")", real.depends(a, b), model.depends(a, b));
-                a = near(0, 1);
-                b = near(0, 6);
-                due("tried(" + a + ", " + b + ")", real.tried(a, b), model.tried(a, b));
-            }
-            default -> {
-                a = near(0, 14);
-                due("about(" + a + ")", real.about(a), model.about(a));
-            }
+            default -> oneQuestion();
         }
     }
 
@@ -327,20 +322,21 @@ final class ModelTest {
             due("undo()", real.undo(), model.undo());
             due("about(5)", real.about(5), model.about(5));
         }
-        askAll();
+        ask();
     }
 
     private static void oneRun(String text) {
         real = new PackLanes();
         model = new Model();
+        calls = 0;
         if (below(10) != 0) {
             writeText(text);
         }
-        askAll();
+        ask();
         for (int k = 0; k < 30; k++) {
             oneCall();
         }
-        askAll();
+        ask();
         if (run % 4 == 0) {
             sharesAndChances();
         }
@@ -351,9 +347,9 @@ final class ModelTest {
         for (int k = 0; k < 5; k++) {
             oneCall();
         }
-        askAll();
+        ask();
         writeText(anyText());
-        askAll();
+        ask();
     }
 
     public static void main(String[] args) {
@@ -361,7 +357,7 @@ final class ModelTest {
             run++;
             oneRun(text);
         }
-        int runs = args.length == 1 ? Integer.parseInt(args[0]) : 1500;
+        int runs = args.length == 1 ? Integer.parseInt(args[0]) : 4000;
         while (run < runs) {
             run++;
             oneRun(anyText());
