@@ -846,15 +846,14 @@ public final class PackLanes {
 
         private void takeOneByOne(int bundle) {
             int set = setOf(bundle, width);
-            single |= set;
-            boolean cheap = Integer.bitCount(set) == 1;
-            if (!cheap) {
-                cheap = true;
-                for (int k = 0; k < width; k++) {
-                    cheap &= code.kind[inLane(bundle, k)] == CONSTANT;
+            boolean constants = true;
+            for (int k = 0; k < width; k++) {
+                if (code.kind[inLane(bundle, k)] != CONSTANT) {
+                    constants = false;
                 }
             }
-            costs += cheap ? 1 : width;
+            single |= set;
+            costs += constants || Integer.bitCount(set) == 1 ? 1 : width;
         }
 
         private boolean hasPack(int bundle) {

@@ -91,7 +91,7 @@ final class Script {
             case "MAX" -> Integer.MAX_VALUE;
             case "LONGMIN" -> Long.MIN_VALUE;
             case "LONGMAX" -> Long.MAX_VALUE;
-            default -> Long.parseLong(told);
+            default -> Long.parseLong(told.endsWith("L") ? told.substring(0, told.length() - 1) : told);
         };
     }
 }
